@@ -140,15 +140,7 @@ public final class Formationist {
 
     public int groups() {
         drawNet();
-        int found = 0;
-        int grouped = 0;
-        for (int member = 0; member < count; member++) {
-            if (ups[member] && !Net.holds(grouped, member)) {
-                grouped |= net.groupOf(member);
-                found++;
-            }
-        }
-        return found;
+        return countGroups();
     }
 
     public int leader(int member) throws IndexOutOfBoundsException {
@@ -274,8 +266,9 @@ public final class Formationist {
     }
 
     public boolean isRigid() {
+        drawNet();
         int up = Integer.bitCount(upSet());
-        return up >= 2 && groups() == 1 && rank() == 2 * up - 3;
+        return up >= 2 && countGroups() == 1 && pebbleGame.rankOf(net) == 2 * up - 3;
     }
 
     public boolean isSpare(int member, int other)
@@ -354,6 +347,18 @@ public final class Formationist {
                 }
             }
         }
+    }
+
+    private int countGroups() {
+        int found = 0;
+        int grouped = 0;
+        for (int member = 0; member < count; member++) {
+            if (ups[member] && !Net.holds(grouped, member)) {
+                grouped |= net.groupOf(member);
+                found++;
+            }
+        }
+        return found;
     }
 
     private int upSet() {
