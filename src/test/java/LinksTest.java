@@ -53,12 +53,13 @@ public final class LinksTest {
         check.due("line: degree of an end", made.degree(0), 1);
         check.due("line: degree inside", made.degree(4), 2);
         made.toggle(4);
+        check.due("right after a toggle: degree", made.degree(5), 1);
         check.due("one down: links()", made.links(), 5);
         check.due("one down: its degree", made.degree(4), 0);
         check.due("one down: degree beside it", made.degree(3), 1);
         made.block(0, 1);
-        check.due("blocked: links()", made.links(), 4);
         check.due("blocked: degree", made.degree(0), 0);
+        check.due("blocked: links()", made.links(), 4);
         check.noIndex("degree(8)", () -> made.degree(8));
         check.noIndex("degree(-1)", () -> made.degree(-1));
         Formationist full = heap(8);

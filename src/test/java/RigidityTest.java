@@ -11,6 +11,7 @@ public final class RigidityTest {
         checkTwoBodies();
         checkTwoSides();
         checkDoubleBanana();
+        checkEachLooksAnew();
         checkIsRigidCountsThoseUp();
         checkIsSpare();
         checkIsSpareThrows();
@@ -103,6 +104,23 @@ public final class RigidityTest {
                 0, 5, 0, 6, 0, 7, 1, 5, 1, 6, 1, 7, 5, 6, 5, 7, 6, 7);
         dueRank("a double banana", made, 13, true);
         check.due("a double banana: links()", made.links(), 18);
+    }
+
+    private static void checkEachLooksAnew() {
+        Formationist made = figure(3, 0, 1, 1, 2, 0, 2);
+        check.due("rankByCounting() at first", made.rankByCounting(), 3);
+        made.block(0, 1);
+        check.due("rank() right after a block", made.rank(), 2);
+        made.toggle(2);
+        check.due("rankByCounting() right after a toggle", made.rankByCounting(), 0);
+        made.toggle(2);
+        made.block(0, 1);
+        check.due("isRigid() right after a block", made.isRigid(), true);
+        made.setRange(0);
+        made.move(1, 3, 4);
+        check.due("isSpare right after a move", made.isSpare(0, 2), false);
+        made.setRange(5);
+        check.due("rank() right after a new range", made.rank(), 3);
     }
 
     private static void checkIsRigidCountsThoseUp() {
