@@ -1,3 +1,5 @@
+import java.util.function.LongSupplier;
+
 /** Counts and prints what is not as due; the tests of the project share it. */
 final class Check {
     private int right = 0;
@@ -35,6 +37,15 @@ final class Check {
 
     void noArgument(String call, Call made) {
         dueThrow(call, IllegalArgumentException.class, made);
+    }
+
+    /** What a call answers, or the name of what it throws. */
+    static String answer(LongSupplier call) {
+        try {
+            return Long.toString(call.getAsLong());
+        } catch (RuntimeException e) {
+            return "throws." + e.getClass().getSimpleName();
+        }
     }
 
     void finish() {

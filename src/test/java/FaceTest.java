@@ -94,13 +94,15 @@ public final class FaceTest {
         for (Class<?> inside : face.getDeclaredClasses()) {
             for (Method method : inside.getDeclaredMethods()) {
                 String name = method.getName();
-                check.due("public name " + name + " used inside", publicNames.contains(name), false);
+                check.due("public name " + name + " used inside", publicNames.contains(name),
+                        false);
             }
         }
         for (Method method : face.getDeclaredMethods()) {
             boolean hidden = Modifier.isPrivate(method.getModifiers());
             boolean named = publicNames.contains(method.getName());
-            check.due("private " + method.getName() + " bears a public name", hidden && named, false);
+            check.due("private " + method.getName() + " bears a public name", hidden && named,
+                    false);
         }
     }
 }

@@ -12,26 +12,8 @@ public final class LinksTest {
         check.finish();
     }
 
-    /** Members on a line, each linked with its neighbours alone. */
-    private static Formationist line(int members) {
-        Formationist made = new Formationist();
-        for (int member = 0; member < members; member++) {
-            made.addMember(100 * member - 350, 0);
-        }
-        return made;
-    }
-
-    /** Members at one place, each linked with every other. */
-    private static Formationist heap(int members) {
-        Formationist made = new Formationist();
-        for (int member = 0; member < members; member++) {
-            made.addMember(5, 5);
-        }
-        return made;
-    }
-
     private static void checkAreLinked() {
-        Formationist made = line(3);
+        Formationist made = Formations.line(3);
         check.due("areLinked(0, 1)", made.areLinked(0, 1), true);
         check.due("areLinked(1, 0)", made.areLinked(1, 0), true);
         check.due("areLinked(0, 2)", made.areLinked(0, 2), false);
@@ -48,7 +30,7 @@ public final class LinksTest {
     }
 
     private static void checkLinksAndDegree() {
-        Formationist made = line(8);
+        Formationist made = Formations.line(8);
         check.due("line: links()", made.links(), 7);
         check.due("line: degree of an end", made.degree(0), 1);
         check.due("line: degree inside", made.degree(4), 2);
@@ -62,13 +44,13 @@ public final class LinksTest {
         check.due("blocked: links()", made.links(), 4);
         check.noIndex("degree(8)", () -> made.degree(8));
         check.noIndex("degree(-1)", () -> made.degree(-1));
-        Formationist full = heap(8);
+        Formationist full = Formations.heap(8);
         check.due("heap: links()", full.links(), 28);
         check.due("heap: degree", full.degree(7), 7);
     }
 
     private static void checkGroups() {
-        Formationist made = line(8);
+        Formationist made = Formations.line(8);
         check.due("line: groups()", made.groups(), 1);
         made.toggle(3);
         check.due("one inside down: groups()", made.groups(), 2);
@@ -97,7 +79,7 @@ public final class LinksTest {
     }
 
     private static void checkLeader() {
-        Formationist made = line(6);
+        Formationist made = Formations.line(6);
         made.toggle(2);
         check.due("leader of the low group", made.leader(1), 0);
         check.due("leader of the high group", made.leader(5), 3);
@@ -121,7 +103,7 @@ public final class LinksTest {
     }
 
     private static void checkTrees() {
-        Formationist made = heap(1);
+        Formationist made = Formations.heap(1);
         check.due("one alone: trees()", made.trees(), 1);
         made.toggle(0);
         check.due("none up: trees()", made.trees(), 0);
@@ -140,16 +122,16 @@ public final class LinksTest {
     private static void checkTreesOfKnownFigures() {
         long[] byCayley = {1, 1, 3, 16, 125, 1296, 16807, 262144};
         for (int members = 1; members <= 8; members++) {
-            check.due("heap of " + members + ": trees()", heap(members).trees(),
+            check.due("heap of " + members + ": trees()", Formations.heap(members).trees(),
                     byCayley[members - 1]);
-            check.due("line of " + members + ": trees()", line(members).trees(), 1);
+            check.due("line of " + members + ": trees()", Formations.line(members).trees(), 1);
         }
-        Formationist twoGroups = heap(8);
+        Formationist twoGroups = Formations.heap(8);
         for (int member = 4; member < 8; member++) {
             twoGroups.move(member, 500, 500);
         }
         check.due("two groups: trees()", twoGroups.trees(), 0);
-        Formationist sides = heap(8);
+        Formationist sides = Formations.heap(8);
         for (int low = 0; low < 4; low++) {
             for (int high = low + 1; high < 4; high++) {
                 sides.block(low, high);
@@ -159,7 +141,7 @@ public final class LinksTest {
         check.due("two sides of 4: trees()", sides.trees(), 4096);
         sides.toggle(0);
         check.due("sides of 3 and 4: trees()", sides.trees(), 432);
-        Formationist ring = heap(8);
+        Formationist ring = Formations.heap(8);
         for (int low = 0; low < 8; low++) {
             for (int high = low + 2; high < 8; high++) {
                 if (high - low != 7) {

@@ -33,16 +33,8 @@ public final class RandomRunsTest {
         }
     }
 
-    private static String answer(LongSupplier call) {
-        try {
-            return Long.toString(call.getAsLong());
-        } catch (RuntimeException e) {
-            return "throws." + e.getClass().getSimpleName();
-        }
-    }
-
     private void compare(String call, LongSupplier got, LongSupplier want) {
-        check.same("run " + run + ": " + call, answer(got), answer(want));
+        check.same("run " + run + ": " + call, Check.answer(got), Check.answer(want));
     }
 
     private int member() {

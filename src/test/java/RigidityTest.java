@@ -18,21 +18,8 @@ public final class RigidityTest {
         check.finish();
     }
 
-    /** Members at one place, linked by the given pairs alone. */
     private static Formationist figure(int members, int... ends) {
-        Formationist made = new Formationist();
-        for (int member = 0; member < members; member++) {
-            made.addMember(0, 0);
-        }
-        for (int low = 0; low < members; low++) {
-            for (int high = low + 1; high < members; high++) {
-                made.block(low, high);
-            }
-        }
-        for (int end = 0; end < ends.length; end += 2) {
-            made.block(ends[end], ends[end + 1]);
-        }
-        return made;
+        return Formations.figure(members, ends);
     }
 
     private static void dueRank(String name, Formationist made, int rank, boolean rigid) {
@@ -117,7 +104,7 @@ public final class RigidityTest {
         made.block(0, 1);
         check.due("isRigid() right after a block", made.isRigid(), true);
         made.setRange(0);
-        made.move(1, 3, 4);
+        made.move(1, 8, 9);
         check.due("isSpare right after a move", made.isSpare(0, 2), false);
         made.setRange(5);
         check.due("rank() right after a new range", made.rank(), 3);
