@@ -58,6 +58,7 @@ public final class CallsTest {
         objectsKeepApart();
         fullOfMembers();
         allDown();
+        thoseDownTakeAllCalls();
         for (Named asking : ASKING) {
             askingChangesNothing(asking);
             lastCallAnswers(asking);
@@ -144,6 +145,28 @@ public final class CallsTest {
         }
         check.due("all down: toggle", made.toggle(5), true);
         dueFigures("but one", made, 8, 0, 1, 1, 0);
+    }
+
+    private static void thoseDownTakeAllCalls() {
+        Formationist made = Formations.heap(2);
+        made.toggle(1);
+        made.move(1, -1000, 1000);
+        check.due("down: setPriority", made.setPriority(1, 99), 0);
+        check.due("down: setEstimate", made.setEstimate(1, 7), 0);
+        check.due("down: setSum", made.setSum(1, 8), 0);
+        check.due("down: want", made.want(1, 0, 9), Formationist.NONE);
+        check.due("down: block", made.block(1, 0), true);
+        check.due("down: toggle", made.toggle(1), true);
+        check.due("up: xOf", made.xOf(1), -1000);
+        check.due("up: yOf", made.yOf(1), 1000);
+        check.due("up: block", made.block(1, 0), false);
+        made.move(1, 5, 5);
+        check.due("up: leader", made.leader(0), 1);
+        check.due("up: error()", made.error(), 9);
+        check.due("up: agree(1)", made.agree(1), 1);
+        check.due("up: estimate", made.estimate(1), 4);
+        check.due("up: spread(1)", made.spread(1), 2);
+        check.due("up: sum", made.sum(1), 4);
     }
 
     private static void askingChangesNothing(Named asking) {

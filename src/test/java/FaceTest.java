@@ -6,38 +6,38 @@ import java.util.Arrays;
 import java.util.Set;
 import java.util.TreeSet;
 
-/** The class shows the document's face and nothing beside it (LANGUAGE.md, rule 1). */
+/** The class shows the document's face, throws clauses and all, and nothing beside it. */
 public final class FaceTest {
     private static final String[] FACE = {
-        "int addMember(int,int)",
-        "void move(int,int,int)",
-        "boolean toggle(int)",
-        "int setPriority(int,int)",
-        "int setRange(int)",
-        "boolean block(int,int)",
+        "int addMember(int,int) throws IllegalArgumentException,IllegalStateException",
+        "void move(int,int,int) throws IndexOutOfBoundsException,IllegalArgumentException",
+        "boolean toggle(int) throws IndexOutOfBoundsException",
+        "int setPriority(int,int) throws IndexOutOfBoundsException,IllegalArgumentException",
+        "int setRange(int) throws IllegalArgumentException",
+        "boolean block(int,int) throws IndexOutOfBoundsException,IllegalArgumentException",
         "int members()",
-        "int xOf(int)",
-        "int yOf(int)",
-        "boolean areLinked(int,int)",
+        "int xOf(int) throws IndexOutOfBoundsException",
+        "int yOf(int) throws IndexOutOfBoundsException",
+        "boolean areLinked(int,int) throws IndexOutOfBoundsException",
         "int links()",
-        "int degree(int)",
+        "int degree(int) throws IndexOutOfBoundsException",
         "int groups()",
-        "int leader(int)",
+        "int leader(int) throws IndexOutOfBoundsException",
         "long trees()",
-        "int setEstimate(int,int)",
-        "int estimate(int)",
-        "int agree(int)",
-        "int setSum(int,int)",
-        "int sum(int)",
-        "int weight(int)",
-        "int spread(int)",
-        "int want(int,int,int)",
+        "int setEstimate(int,int) throws IndexOutOfBoundsException,IllegalArgumentException",
+        "int estimate(int) throws IndexOutOfBoundsException",
+        "int agree(int) throws IllegalArgumentException",
+        "int setSum(int,int) throws IndexOutOfBoundsException,IllegalArgumentException",
+        "int sum(int) throws IndexOutOfBoundsException",
+        "int weight(int) throws IndexOutOfBoundsException",
+        "int spread(int) throws IllegalArgumentException",
+        "int want(int,int,int) throws IndexOutOfBoundsException,IllegalArgumentException",
         "int error()",
-        "int settle(int)",
+        "int settle(int) throws IllegalArgumentException",
         "int rank()",
         "int rankByCounting()",
         "boolean isRigid()",
-        "boolean isSpare(int,int)",
+        "boolean isSpare(int,int) throws IndexOutOfBoundsException,NoSuchElementException",
     };
 
     public static void main(String[] args) {
@@ -73,7 +73,13 @@ public final class FaceTest {
             text.append(separator).append(type.getName());
             separator = ",";
         }
-        return text.append(method.getParameterCount() == 0 ? "()" : ")").toString();
+        text.append(method.getParameterCount() == 0 ? "()" : ")");
+        separator = " throws ";
+        for (Class<?> type : method.getExceptionTypes()) {
+            text.append(separator).append(type.getSimpleName());
+            separator = ",";
+        }
+        return text.toString();
     }
 
     private static Set<String> shownFields(Class<?> face) {

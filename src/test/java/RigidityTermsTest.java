@@ -11,7 +11,9 @@ public final class RigidityTermsTest {
         rankOfFreeSets();
         countsWithinEachSet();
         eachLinkBesideTheMostIsOfNoUse();
-        everyFigureOfFive();
+        for (int members = 1; members <= 6; members++) {
+            everyFigureOf(members);
+        }
         rigidFromTwoMembers();
         rigidInOneGroup();
         rigidWithOneLinkTooFew();
@@ -111,28 +113,25 @@ public final class RigidityTermsTest {
         }
     }
 
-    /** All 1024 sets of links of five members, against the words of the document. */
-    private static void everyFigureOfFive() {
-        Formationist made = Formations.heap(5);
-        int[] pairs = pairSets(5);
-        int[] ranks = ranks(pairs);
+    /** All sets of links that so many members can have, against the words of the document. */
+    private static void everyFigureOf(int members) {
+        int[] pairs = pairSets(members);
+        int[] ranks = ranks(pairs, members);
+        Formationist made = Formations.heap(members);
         for (int set = 0; set < ranks.length; set++) {
+            // An object is used for at most 512 calls, so sixteen figures share one.
+            int changed = set ^ set - 1;
             if (set % 16 == 0) {
-                made = Formations.heap(5);
-                for (int pair = 0; pair < pairs.length; pair++) {
-                    if ((set & 1 << pair) == 0) {
-                        blockPair(made, pairs[pair]);
-                    }
-                }
-            } else {
-                int changed = set ^ set - 1;
-                for (int pair = 0; pair < pairs.length; pair++) {
-                    if ((changed & 1 << pair) != 0) {
-                        blockPair(made, pairs[pair]);
-                    }
+                made = Formations.heap(members);
+                changed = ~set;
+            }
+            for (int pair = 0; pair < pairs.length; pair++) {
+                if ((changed & 1 << pair) != 0) {
+                    blockPair(made, pairs[pair]);
                 }
             }
-            dueRank("figure " + set, made, ranks[set], ranks[set] == 7);
+            dueRank("figure " + set + " of " + members, made, ranks[set],
+                    members >= 2 && ranks[set] == 2 * members - 3);
         }
     }
 
@@ -154,10 +153,10 @@ public final class RigidityTermsTest {
     }
 
     /** For each set of links the size of the greatest free one within, by trying all of them. */
-    private static int[] ranks(int[] pairs) {
+    private static int[] ranks(int[] pairs, int members) {
         int[] ranks = new int[1 << pairs.length];
         for (int set = 0; set < ranks.length; set++) {
-            if (isFree(set, pairs)) {
+            if (isFree(set, pairs, members)) {
                 ranks[set] = Integer.bitCount(set);
             } else {
                 for (int pair = 0; pair < pairs.length; pair++) {
@@ -170,15 +169,15 @@ public final class RigidityTermsTest {
         return ranks;
     }
 
-    private static boolean isFree(int set, int[] pairs) {
-        for (int members = 0; members < 32; members++) {
+    private static boolean isFree(int set, int[] pairs, int members) {
+        for (int among = 0; among < 1 << members; among++) {
             int within = 0;
             for (int pair = 0; pair < pairs.length; pair++) {
-                if ((set & 1 << pair) != 0 && (pairs[pair] & ~members) == 0) {
+                if ((set & 1 << pair) != 0 && (pairs[pair] & ~among) == 0) {
                     within++;
                 }
             }
-            int size = Integer.bitCount(members);
+            int size = Integer.bitCount(among);
             if (size >= 2 && within > 2 * size - 3) {
                 return false;
             }
